@@ -1065,7 +1065,7 @@ public final class PlayParts {
 
     private final int[][] weight = new int[MOST_CHILDREN][MOST_PARTS];
 
-    /** By one of the CHILDREN and a set of PARTS: the most that this one and those behind come to without them. */
+    /** By one of the CHILDREN and a set of PARTS: what this one and those behind come to without them. */
     private final int[][] most = new int[MOST_CHILDREN + 1][SETS];
 
     private final int[] given = new int[MOST_CHILDREN];

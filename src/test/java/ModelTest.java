@@ -11,7 +11,7 @@ import java.util.Random;
  * sheet with more numbers than there are children.
  */
 public final class ModelTest {
-  private static final int RUNS = 4000;
+  private static final int RUNS = 6000;
   private static final int CALLS = 500;
   private static final int MOST_REPORTS = 20;
 
@@ -30,6 +30,10 @@ public final class ModelTest {
 
   /** One run: what is drawn in it leans to one group of calls, so that runs go deep there. */
   private static final class Run {
+    /** By some of these several casts come to the same, by some a second wish is worth more than a first one. */
+    private static final String[] WORTHS = {
+      "w", "w/2", "w=2", "w%3+l", "w*w-4*l", "w-l*2", "w*v%7", "!l*w", "5-w", "w=3|w=2&l", "9-3*w", "1", "w>1", "w*l+v"
+    };
     private final int number;
     private final Random random;
     private final PlayParts real = new PlayParts();
@@ -54,6 +58,11 @@ public final class ModelTest {
         for (int k = 0; k < 3 && parts > 0; k++) {
           call(7, i, k, random.nextInt(parts + 1) - 1, 0, 0);
         }
+      }
+      if (random.nextInt(3) > 0) {
+        feedAll(WORTHS[random.nextInt(WORTHS.length)]);
+        call(12, 0, 0, 0, 0, 0);
+        call(17, 1 + random.nextInt(3), 0, 0, 0, 0);
       }
       boolean dear = parts * children > 30;
       int length = lean == 3 ? (dear ? 20 : 60) : 60 + random.nextInt(200);
@@ -111,7 +120,7 @@ public final class ModelTest {
           group = new int[] {15, 16, 17, 18, 6, 8, 7, 10, 10};
           break;
         case 3:
-          group = new int[] {19, 19, 19, 20, 21, 22, 22, 23, 23, 7, 8, 2};
+          group = new int[] {19, 19, 19, 20, 21, 22, 22, 22, 22, 23, 23, 7, 7, 8, 2, 11, 15, 16, 32, 33, 0, 5};
           break;
         case 4:
           group = new int[] {25, 26, 2};
@@ -246,7 +255,13 @@ public final class ModelTest {
       if (random.nextInt(3) == 0) {
         signs = spoilt(signs);
       }
-      signs = signs.substring(0, Math.min(40, signs.length()));
+      feedAll(signs.substring(0, Math.min(40, signs.length())));
+      if (random.nextInt(4) > 0) {
+        call(12, random.nextInt(2), 0, 0, 0, 0);
+      }
+    }
+
+    private void feedAll(String signs) {
       for (int i = 0; i < signs.length(); ) {
         int n = Math.min(1 + random.nextInt(8), signs.length() - i);
         long word = n == 8 ? 0 : random.nextLong() << (8 * n);
@@ -255,9 +270,6 @@ public final class ModelTest {
         }
         feed(word, n);
         i += n;
-      }
-      if (random.nextInt(4) > 0) {
-        call(12, random.nextInt(2), 0, 0, 0, 0);
       }
     }
 

@@ -46,9 +46,11 @@ public final class PromisesTest {
     promise18LastYear();
     promise19();
     promise20();
+    promise20Restored();
     promise21();
     promise22();
     promise23();
+    promise23ByText();
     promise24();
     promise25();
     promise26();
@@ -609,6 +611,11 @@ public final class PromisesTest {
     x.falls(0, 1);
     due("play() in year 4", x.play(), 13 + 80 + 80);
     due("count(3)", x.count(3), 358);
+    text(x, 1, "y");
+    x.loose(1);
+    due("the rest of year 6 by 7, twice", x.play(), 12);
+    due("the rest of year 7 by 7", x.play(), 0);
+    due("the rest of year 8 by 7, twice", x.play(), 2);
   }
 
   private static void promise16Joy() {
@@ -796,6 +803,29 @@ public final class PromisesTest {
     due("best(2)", x.best(2), 0);
   }
 
+  private static void promise20Restored() {
+    topic = "promise 20, of what is restored";
+    PlayParts x = new PlayParts();
+    x.part(0);
+    x.child(5, 5, 0);
+    x.child(5, 5, 0);
+    x.image();
+    x.part(0);
+    x.child(5, 5, 0);
+    x.wishes(0, 0, 0);
+    x.wishes(1, 0, 1);
+    x.wishes(2, 0, 1);
+    due("best(-1)", x.best(-1), 60);
+    due("best(2)", x.best(2), -1);
+    due("without(0)", x.without(0), 30);
+    x.restore();
+    due("best(-1)", x.best(-1), 0);
+    due("best(0)", x.best(0), 0);
+    due("best(1)", x.best(1), -1);
+    due("best(2)", x.best(2), NONE);
+    due("wished()", x.wished(), 0);
+  }
+
   private static void promise21() {
     topic = "promise 21";
     PlayParts x = new PlayParts();
@@ -882,6 +912,58 @@ public final class PromisesTest {
     due("lies(-1, 0)", x.lies(-1, 0), BEYOND);
     due("lies(0, 2)", x.lies(0, 2), BEYOND);
     due("lies(0, -1)", x.lies(0, -1), BEYOND);
+  }
+
+  private static void promise23ByText() {
+    topic = "promise 23, by a text";
+    PlayParts x = new PlayParts();
+    x.part(0);
+    x.part(0);
+    x.child(5, 5, 0);
+    x.child(5, 5, 0);
+    // What one had last is worth 4 more, by each lie too: the second one had 0 last, the first one 1.
+    text(x, 0, "w*3+4*l");
+    x.cast(0, 1);
+    x.cast(1, 0);
+    x.play();
+    x.wishes(0, 0, 0);
+    x.wishes(1, 0, 1);
+    // 0: 9 and 4; 1: 4 and 9.
+    due("best(-1)", x.best(-1), 18);
+    due("best(0)", x.best(0), 0);
+    due("lies(0, 0)", x.lies(0, 0), -1);
+    x.wishes(1, 0, 0);
+    x.wishes(1, 1, 1);
+    // 0: 9 and 13; 1: 4 and 6.
+    due("best(-1)", x.best(-1), 17);
+    due("best(0), to whom 0 is dearer", x.best(0), 1);
+    due("best(1)", x.best(1), 0);
+    // By 0 first, 0 second: 9 and 4; 13 and 6: the same sum by less.
+    due("lies(0, 0)", x.lies(0, 0), -1);
+    x.wishes(1, 1, -1);
+    // 13 and 0: what one had last outweighs it by any lie.
+    due("lies(0, 1)", x.lies(0, 1), 0);
+    x.wishes(0, 0, -1);
+    x.wishes(0, 2, 0);
+    x.wishes(1, 0, 1);
+    // 0: 3 and 4; 1: 4 and 9: the best is 13 by 0 and 1; by that one has 0.
+    due("best(-1)", x.best(-1), 12);
+    due("best(0)", x.best(0), 0);
+    // 1 is worth 4 truly; by 1 first, 13, one has it, and the other has 4.
+    due("lies(0, 0)", x.lies(0, 0), 10);
+    due("lies(0, 1)", x.lies(0, 1), 1);
+    // The other one: by 0 first, 13, but 9 more is what 1 is worth to that one truly.
+    due("lies(1, 0)", x.lies(1, 0), -1);
+    text(x, 0, "w=2");
+    x.wishes(0, 0, 1);
+    x.wishes(0, 1, 0);
+    x.wishes(0, 2, -1);
+    x.wishes(1, 0, -1);
+    x.wishes(1, 1, 0);
+    // Only a second wish is worth 1: both want 0, the first one has it by number.
+    due("best(0)", x.best(0), 0);
+    due("best(1)", x.best(1), 1);
+    due("lies(1, 0), none of which is worth more", x.lies(1, 0), -1);
   }
 
   private static void promise24() {
