@@ -55,11 +55,15 @@ public final class EdgesTest {
     withoutEdges();
     liesThatAreAll();
     liesOfSeveral();
+    liesForNone();
+    liesBySecondWishAndLast();
+    liesBehindRestore();
     odds();
     fitsByTheEnds();
     fitsByFewer();
     partsByNumbers();
     voicesThatWrap();
+    howManyBodies();
     sheetsOfBits();
     movesInOne();
     castsUpTo();
@@ -173,6 +177,8 @@ public final class EdgesTest {
     may(false, 52, 0, 1, 1);
     may(true, 52, 0, 2, 1);
     may(false, 52, 0, 3, 1);
+    may(false, 57, 0, 1, 0);
+    may(false, 57, 0, 2, 0);
     may(false, 57, 0, 3, 0);
     may(true, 57, 0, 4, 0);
     may(true, 57, 0, 7, 0);
@@ -991,6 +997,94 @@ public final class EdgesTest {
     lies(x, 1, -1, 0);
   }
 
+  private static void liesForNone() {
+    topic = "23, who has none";
+    // One PART: 10 for the first one, 30 for the second one, who has it; by a lie of 30 it is the first one's.
+    PlayParts x = of(1, 2);
+    x.wishes(0, 2, 0);
+    x.wishes(1, 0, 0);
+    best(x, 30, -1, 0);
+    lies(x, 0, 0, 10);
+    lies(x, 1, -1, 0);
+    // The other way round, 30 and 30 is no more: the first one keeps it.
+    x = of(1, 2);
+    x.wishes(0, 0, 0);
+    x.wishes(1, 2, 0);
+    best(x, 30, 0, -1);
+    lies(x, 1, -1, 0);
+    // Who has what is worth nothing truly has that by the BEST, too.
+    x = of(1, 1);
+    best(x, 0, 0);
+    lies(x, 0, -1, 0);
+    // Number 6 is less than none: the first one, who may play that alone, has it, though none is worth as much.
+    x = new PlayParts();
+    x.part(11);
+    x.part(11);
+    for (int i = 2; i < 6; i++) {
+      x.part(19);
+    }
+    x.part(0);
+    x.child(0, 5, 0);
+    x.child(5, 5, 0);
+    x.child(5, 5, 0);
+    x.wishes(1, 2, 0);
+    x.wishes(2, 0, 0);
+    x.wishes(2, 1, 6);
+    best(x, 30, 6, 1, 0);
+    lies(x, 2, -1, 0);
+  }
+
+  private static void liesBySecondWishAndLast() {
+    topic = "23, the second WISH and LAST";
+    // Only as a second WISH number 0 is worth 9, as much as to the other one.
+    PlayParts x = of(2, 2);
+    text(x, 0, "(w=2)*9+(w=1)*4");
+    x.wishes(0, 2, 0);
+    x.wishes(1, 1, 0);
+    best(x, 9, 1, 0);
+    lies(x, 0, 10, 4);
+    // Both had number 1 LAST: 10 by a lie is as much as the other one's 10, no more.
+    x = bothHad(1);
+    text(x, 0, "l*4+w*2");
+    x.wishes(0, 2, 1);
+    x.wishes(1, 0, 1);
+    best(x, 10, 0, 1);
+    lies(x, 0, -1, 0);
+    // Both had number 0 LAST, which is worth less by that: number 1 counts as what one had not.
+    x = bothHad(0);
+    text(x, 0, "(!l)*9+w");
+    x.wishes(0, 2, 1);
+    x.wishes(1, 1, 1);
+    best(x, 11, 0, 1);
+    lies(x, 0, 11, 10);
+  }
+
+  private static PlayParts bothHad(int part) {
+    PlayParts x = of(2, 2);
+    for (int i = 0; i < 2; i++) {
+      x.cast(i, part);
+      x.play();
+    }
+    due("childIs(0, 4)", x.childIs(0, 4), part);
+    due("childIs(1, 4)", x.childIs(1, 4), part);
+    return x;
+  }
+
+  private static void liesBehindRestore() {
+    topic = "23, of fewer PARTS again";
+    PlayParts x = of(1, 2);
+    x.wishes(0, 2, 0);
+    x.wishes(1, 0, 0);
+    x.image();
+    x.part(5);
+    x.wishes(0, 0, 1);
+    lies(x, 0, -1, 0);
+    x.restore();
+    best(x, 30, -1, 0);
+    lies(x, 0, 0, 10);
+    due("without(1)", x.without(1), 20);
+  }
+
   private static void odds(PlayParts x, int above, int below) {
     due("odds(0, 0)", x.odds(0, 0), above);
     due("odds(0, 1)", x.odds(0, 1), below);
@@ -1151,6 +1245,7 @@ public final class EdgesTest {
     due("a BEAST waits -3 / 2, cut toward 0", x.voice(3, 2, -3), (-1 + 3) * 2 - 5);
     due("a BEAST waits MIN / 2", x.voice(3, 2, MIN), MIN + 1);
     due("a SINGER waits with all bits", x.voice(4, 2, 0), -5 ^ 4);
+    due("a SINGER waits: 7 ^ 4, not 7 | 4", x.voice(4, 2, 2), 3);
     due("a STAR says 9 to all", x.voice(6, 0, MIN), 9);
     due("a STAR sings 9 * 2 + 5 to all", x.voice(6, 1, MAX), 23);
     due("told(1)", x.told(1), 0);
@@ -1158,6 +1253,38 @@ public final class EdgesTest {
     // An answer may be below LOW: it is no ERROR then.
     due("a PART says what is like STATE", x.voice(0, 0, STATE), STATE);
     due("told(3)", x.told(3), 0);
+  }
+
+  /** No VOICE comes to more than six BODIES, so THE TRACE is never full. */
+  private static void howManyBodies() {
+    topic = "4 and 27, how many";
+    int[][] many = {
+      {1, 2, 3, 1}, {2, 3, 4, 5}, {1, 3, 4, 1}, {1, 2, 4, 1}, {3, 4, 6, 6}, {1, 4, 5, 1}, {1, 3, 4, 1}
+    };
+    int[][] last = {
+      {10, 10, 10, 13}, {10, 10, 10, 10}, {10, 10, 10, 13}, {10, 10, 10, 13}, {10, 10, 10, 10}, {10, 10, 10, 13},
+      {70, 70, 70, 13}
+    };
+    PlayParts x = new PlayParts();
+    due("body(0) ahead of all", x.body(0), NONE);
+    for (int kind = 0; kind < 7; kind++) {
+      x.part(10 * kind + 9);
+    }
+    for (int kind = 0; kind < 7; kind++) {
+      for (int voice = 0; voice < 4; voice++) {
+        String call = "voice(" + kind + ", " + voice + ", 3)";
+        x.voice(kind, voice, 3);
+        int count = many[kind][voice];
+        due("count(6) behind " + call, x.count(6), count);
+        due("the last one behind " + call, x.body(count - 1), last[kind][voice]);
+        due("one more behind " + call, x.body(count), NONE);
+        due("body(29) behind " + call, x.body(29), NONE);
+        due("body(30) behind " + call, x.body(30), NONE);
+        due("body(-1) behind " + call, x.body(-1), NONE);
+      }
+    }
+    due("told(2)", x.told(2), 1 + 28 * 4);
+    due("told(1)", x.told(1), 0);
   }
 
   // ---- sheets
@@ -1458,6 +1585,14 @@ public final class EdgesTest {
     row(y, 0, 8, 0, -1);
     due("fits(0, 0), nobody for the second", y.fits(0, 0), 0);
     due("fits(0, 1), nobody for the second", y.fits(0, 1), NONE);
+    row(y, 0, 8, 0, 0);
+    due("fits(0, 0), nobody for the second", y.fits(0, 0), 0);
+    due("fits(0, 1), nobody for the second", y.fits(0, 1), NONE);
+    row(y, 0, 8, 0);
+    due("fits(0, 0) of as many as there are", y.fits(0, 0), 256);
+    y.sheet(0, 8, 24);
+    due("fits(0, 0) of 24", y.fits(0, 0), 0);
+    row(y, 0, 8, 0, -1);
     due("casts(0), nobody for the second", y.casts(0), 1);
     due("judge(0), nobody for the second", y.judge(0), 1);
   }
