@@ -57,6 +57,7 @@ public final class EdgesTest {
     liesOfSeveral();
     liesForNone();
     liesBySecondWishAndLast();
+    liesByTiesAhead();
     liesBehindRestore();
     odds();
     fitsByTheEnds();
@@ -1068,6 +1069,32 @@ public final class EdgesTest {
     due("childIs(0, 4)", x.childIs(0, 4), part);
     due("childIs(1, 4)", x.childIs(1, 4), part);
     return x;
+  }
+
+  private static void liesByTiesAhead() {
+    topic = "23, a tie told by those ahead";
+    PlayParts x = new PlayParts();
+    x.part(0);
+    x.part(15);
+    x.part(15);
+    x.part(15);
+    x.child(9, 5, 0);
+    x.child(0, 5, 0);
+    x.child(9, 5, 0);
+    x.child(9, 5, 0);
+    x.wishes(0, 0, 0);
+    x.wishes(0, 1, 1);
+    x.wishes(1, 0, 0);
+    x.wishes(2, 1, 3);
+    x.wishes(3, 0, 3);
+    x.wishes(3, 1, 1);
+    best(x, 80, 1, 0, 2, 3);
+    // With 3 as the first WISH 0, none, 3, 1 and 1, 0, 2, 3 come to 80: number 0 has the least in the first one, though
+    // the one behind has none there and 0 in the other.
+    lies(x, 2, 30, 20);
+    x.wishes(2, 0, 3);
+    best(x, 80, 0, -1, 3, 1);
+    lies(x, 2, -1, 0);
   }
 
   private static void liesBehindRestore() {
